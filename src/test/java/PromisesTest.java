@@ -21,6 +21,7 @@ public final class PromisesTest {
         earliest();
         earliestNeedsTheWholeLength();
         earliestGoesOverNoPost();
+        earliestSeesTheNewSky();
         late();
         meets();
         part();
@@ -267,6 +268,24 @@ public final class PromisesTest {
         due("8 to the post between", 2, () -> x.earliest(0, 1, 0));
         due("8 from the post between", 2, () -> x.earliest(1, 2, 0));
         due("8 not over the post between", -1, () -> x.earliest(0, 2, 0));
+    }
+
+    /** What was answered before a plane or a post came is not answered again. */
+    private static void earliestSeesTheNewSky() {
+        MoonRelay x = new MoonRelay();
+        x.post(0, 0, 0);
+        x.post(0, 1, 0);
+        due("8 no relay", -1, () -> x.earliest(0, 1, 0));
+        x.plane(1, 0, 0);
+        due("8 a plane more", 2, () -> x.earliest(0, 1, 0));
+        due("9 a plane more", 2, () -> x.late(0, 1, true));
+        x.post(1, 0, 1);
+        due("8 from a new post", 2, () -> x.earliest(2, 1, 0));
+        due("8 to a new post", 2, () -> x.earliest(1, 2, 0));
+        x.dead(0, true);
+        due("8 a relay less", -1, () -> x.earliest(2, 1, 0));
+        x.dead(0, false);
+        due("8 and again", 2, () -> x.earliest(2, 1, 0));
     }
 
     private static void late() {
