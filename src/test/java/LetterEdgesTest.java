@@ -24,6 +24,7 @@ public final class LetterEdgesTest {
         test.waitsThoughAnotherIsFree();
         test.oneAfterAnother();
         test.otherLinksAreFree();
+        test.takenBeforeAnother();
         test.bothDirections();
         test.sameLinkToOtherEnds();
         test.noSuchLink();
@@ -37,6 +38,7 @@ public final class LetterEdgesTest {
         test.handedOutByALoss();
         test.heldUpByTheMiddleOne();
         test.otherPostsDoNotHoldUp();
+        test.eachPairIsHeldUp();
         test.lookAtEachState();
         test.lookBeside();
         test.countBeside();
@@ -377,6 +379,27 @@ public final class LetterEdgesTest {
         edges.due("from relay 1 to the same end at the same step", 2, () -> y.look(1, 4));
     }
 
+    /** What the letter in between took is another link: that the first one took it still counts for the third. */
+    private void takenBeforeAnother() {
+        edges.says("if no other LETTER took that link in that direction at this step it takes it, else it waits.");
+        MoonRelay x = Edges.still(1, 2, 0);
+        x.post(2, 0, 2);
+        x.post(0, 0, 0);
+        x.post(4, 0, 0);
+        x.send(0, 1);
+        x.send(0, 2);
+        x.send(0, 1);
+        x.send(0, 2);
+        x.steps(1);
+        edges.due("the first one by relay 0", 0, () -> x.look(0, 1));
+        edges.due("the second one by relay 1", 1, () -> x.look(1, 1));
+        edges.due("the third one waits", 0, () -> x.look(2, 0));
+        edges.due("the fourth one waits", 0, () -> x.look(3, 0));
+        x.steps(1);
+        edges.due("the third one by relay 0", 0, () -> x.look(2, 1));
+        edges.due("the fourth one by relay 1", 1, () -> x.look(3, 1));
+    }
+
     private void bothDirections() {
         edges.says("if no other LETTER took that link in that direction at this step it takes it, else it waits.");
         MoonRelay x = Edges.still(1, 2, 0);
@@ -641,15 +664,21 @@ public final class LetterEdgesTest {
     }
 
     /** Two rings that do not meet, so that two letters can be stuck while a third one comes. */
-    private void heldUpByTheMiddleOne() {
-        edges.says(ORDER);
+    private static MoonRelay twoRings() {
         MoonRelay x = new MoonRelay();
         x.plane(8, 0, 0);
         x.plane(1, 10, 0);
         x.plane(8, 0, 0);
         x.post(0, 1, 4);
         x.post(16, 1, 4);
+        x.post(16, 1, 4);
         x.dead(8, true);
+        return x;
+    }
+
+    private void heldUpByTheMiddleOne() {
+        edges.says(ORDER);
+        MoonRelay x = twoRings();
         x.send(0, 1);
         x.steps(1);
         x.dead(0, true);
@@ -687,6 +716,32 @@ public final class LetterEdgesTest {
         edges.due("of the same post to another one", 4, () -> x.look(2, 0));
         edges.due("of another post to the same one", 4, () -> x.look(3, 0));
         edges.due("of the same two posts", 3, () -> x.look(4, 0));
+    }
+
+    /** Letters of one post to two others are stuck: each of them holds up those of its own two posts. */
+    private void eachPairIsHeldUp() {
+        edges.says(ORDER);
+        MoonRelay x = twoRings();
+        x.send(0, 1);
+        x.steps(1);
+        x.dead(0, true);
+        x.dead(2, true);
+        x.send(0, 2);
+        x.steps(1);
+        x.dead(6, true);
+        edges.due("one to post 1 is stuck at relay 1", 1, () -> x.look(0, 1));
+        edges.due("one to post 2 is stuck at relay 7", 7, () -> x.look(1, 1));
+        x.send(0, 1);
+        x.send(0, 2);
+        x.steps(7);
+        dueLook("another one to post 1 came", x, 2, 3, -1, 4, 2, 8, -1);
+        dueLook("another one to post 2 came", x, 3, 3, -1, 4, 2, 9, -1);
+        x.dead(7, true);
+        edges.due("to post 1 it is held up still", 3, () -> x.look(2, 0));
+        edges.due("to post 2 it is handed out", 9, () -> x.look(3, 5));
+        x.steps(1);
+        x.dead(1, true);
+        edges.due("to post 1 it is handed out now", 10, () -> x.look(2, 5));
     }
 
     private static final String LOOK = "Of a LETTER what 0: 0 at its POST, 1 at a RELAY, 2 on a link, 3 at its end,"

@@ -20,7 +20,8 @@ public final class SkyEdgesTest {
         test.mostPosts();
         test.numbersOfAPost();
         test.postBelowAPlaneToCome();
-        test.ticks();
+        test.ticksOfRelays();
+        test.ticksOfWays();
         test.ringOfAPlane();
         test.noLinkOutOfTurn();
         test.acrossByPlaces();
@@ -238,21 +239,54 @@ public final class SkyEdgesTest {
         }
     }
 
-    private void ticks() {
-        edges.says("IllegalArgumentException: the tick is below 0, or above 100000000.");
+    private static final int[] TICKS = {Edges.LEAST, -32, -1, 0, 1, 31, 32, Edges.LAST_TICK - 1, Edges.LAST_TICK,
+        Edges.LAST_TICK + 1, Edges.LAST_TICK + 32, Edges.GREATEST};
+
+    private static boolean isTick(int tick) {
+        return tick >= 0 && tick <= Edges.LAST_TICK;
+    }
+
+    /** Two relays that stand still, each over a post. */
+    private static MoonRelay pair() {
         MoonRelay x = Edges.still(1, 2, 0);
         x.post(0, 0, 0);
         x.post(4, 0, 0);
-        int[] ticks = {Edges.LEAST, -32, -1, 0, 1, 31, 32, Edges.LAST_TICK, Edges.LAST_TICK + 1, Edges.GREATEST};
-        for (int tick : ticks) {
-            boolean good = tick >= 0 && tick <= Edges.LAST_TICK;
+        return x;
+    }
+
+    private void ticksOfRelays() {
+        MoonRelay x = pair();
+        edges.says("The PLACE of a RELAY at a tick. IllegalArgumentException: the tick is below 0, or above 100000000.");
+        for (int tick : TICKS) {
+            boolean good = isTick(tick);
             edges.due("over at " + tick, good ? (Object) 4 : Edges.ARGUMENT, () -> x.over(1, tick));
+            edges.due("over at " + tick + ", no relay", Edges.INDEX, () -> x.over(2, tick));
+        }
+        edges.says("The LENGTH of the link between two RELAYS at a tick; 0 without one. IllegalArgumentException likewise.");
+        for (int tick : TICKS) {
+            boolean good = isTick(tick);
             edges.due("link at " + tick, good ? (Object) 2 : Edges.ARGUMENT, () -> x.link(0, 1, tick));
-            edges.due("no link at " + tick, good ? (Object) 0 : Edges.ARGUMENT, () -> x.link(1, 1, tick));
+            edges.due("without one at " + tick, good ? (Object) 0 : Edges.ARGUMENT, () -> x.link(1, 1, tick));
+        }
+        edges.says("Whether there is a link between a POST and a RELAY at a tick. IllegalArgumentException likewise.");
+        for (int tick : TICKS) {
+            boolean good = isTick(tick);
             edges.due("sees at " + tick, good ? (Object) true : Edges.ARGUMENT, () -> x.sees(0, 0, tick));
             edges.due("sees not at " + tick, good ? (Object) false : Edges.ARGUMENT, () -> x.sees(0, 1, tick));
+        }
+    }
+
+    private void ticksOfWays() {
+        MoonRelay x = pair();
+        edges.says("EARLIEST; NONE (the tick itself, if both POSTS are one). IllegalArgumentException likewise.");
+        for (int tick : TICKS) {
+            boolean good = isTick(tick);
             edges.due("earliest at " + tick, good ? (Object) (tick + 4) : Edges.ARGUMENT, () -> x.earliest(0, 1, tick));
             edges.due("to itself at " + tick, good ? (Object) tick : Edges.ARGUMENT, () -> x.earliest(1, 1, tick));
+        }
+        edges.says("NONE, if both are one). IllegalArgumentException likewise.");
+        for (int tick : TICKS) {
+            boolean good = isTick(tick);
             edges.due("part at " + tick, good ? (Object) 1 : Edges.ARGUMENT, () -> x.part(0, 1, tick));
             edges.due("part of one at " + tick, good ? (Object) Edges.NONE : Edges.ARGUMENT, () -> x.part(0, 0, tick));
         }

@@ -15,6 +15,7 @@ public final class WayEdgesTest {
         test.lengthsOfTheWay();
         test.overMidnight();
         test.deadForAllTicks();
+        test.deadAsItIsNow();
         test.waiting();
         test.overRelaysAlone();
         test.never();
@@ -163,6 +164,28 @@ public final class WayEdgesTest {
             edges.due("not dead again, at " + tick, tick + 4, () -> x.earliest(0, 1, tick));
         }
         edges.due("late again", 4, () -> x.late(0, 1, true));
+    }
+
+    /** What was answered once is not answered again when the sky is another one, however it came to be so. */
+    private void deadAsItIsNow() {
+        edges.says("(Who is DEAD counts as it is now, for all ticks.)");
+        MoonRelay x = Edges.still(1, 1, 0);
+        x.post(0, 0, 0);
+        x.post(0, 0, 0);
+        edges.due("at first", 2, () -> x.earliest(0, 1, 0));
+        x.dead(0, true);
+        x.plane(1, 16, 0);
+        edges.due("one dead, one plane more", Edges.NONE, () -> x.earliest(0, 1, 0));
+        x.dead(0, false);
+        x.dead(1, true);
+        edges.due("one lives, the other is dead", 2, () -> x.earliest(0, 1, 0));
+        x.dead(0, true);
+        x.post(0, 0, 8);
+        edges.due("one dead, one post more", Edges.NONE, () -> x.late(0, 1, false));
+        x.dead(0, false);
+        x.dead(0, true);
+        x.dead(0, false);
+        edges.due("to and fro", 2, () -> x.late(0, 1, false));
     }
 
     private void waiting() {
