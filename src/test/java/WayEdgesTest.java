@@ -20,6 +20,7 @@ public final class WayEdgesTest {
         test.overRelaysAlone();
         test.never();
         test.roundByADay();
+        test.beganLater();
         test.manyDays();
         test.theTickItself();
         test.leastAndGreatest();
@@ -270,6 +271,44 @@ public final class WayEdgesTest {
         x.plane(2, 13, 2);
         x.post(0, 0, 2);
         x.post(17, 3, 3);
+        return x;
+    }
+
+    /** Skies that began so many ticks later: what is asked of a tick there is what the first one says of it. */
+    private void beganLater() {
+        edges.says("(All goes round by 32 ticks.)");
+        int[][] phases = {{18, 13, 11, 8, 14, 10}, {0, 7, 13, 2, 9, 28}, {12, 15, 8, 14, 15, 0}, {5, 27, 18, 22, 23, 25}};
+        int[][] speeds = {{-1, 0, 1, 0, 1, 0}, {1, -1, 2, 0, -2, -1}, {2, -1, 0, -3, 0, 3}, {-2, -1, -3, -1, 2, -2}};
+        for (int sky = 0; sky < phases.length; sky++) {
+            MoonRelay first = later(phases[sky], speeds[sky], 0);
+            int[] there = new int[64];
+            int[] back = new int[64];
+            for (int tick = 0; tick < 64; tick++) {
+                there[tick] = first.earliest(0, 1, tick);
+                back[tick] = first.earliest(1, 0, tick);
+            }
+            int most = first.late(0, 1, true);
+            edges.due("sky " + sky + " has a way", true, () -> most > 0);
+            for (int by = 1; by < 32; by++) {
+                MoonRelay x = later(phases[sky], speeds[sky], by);
+                String told = "sky " + sky + " later by " + by;
+                for (int tick = 0; tick < 32; tick++) {
+                    int at = tick;
+                    edges.due(told + ", from " + at, there[at + by] - by, () -> x.earliest(0, 1, at));
+                    edges.due(told + ", back from " + at, back[at + by] - by, () -> x.earliest(1, 0, at));
+                }
+                edges.due(told + ", most", most, () -> x.late(0, 1, true));
+            }
+        }
+    }
+
+    private static MoonRelay later(int[] phases, int[] speeds, int by) {
+        MoonRelay x = new MoonRelay();
+        for (int plane = 0; plane < 6; plane++) {
+            x.plane(1 + plane % 3 / 2, Math.floorMod(phases[plane] + by * speeds[plane], 32), speeds[plane]);
+        }
+        x.post(9, 0, 2);
+        x.post(2, 5, 2);
         return x;
     }
 
